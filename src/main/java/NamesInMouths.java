@@ -27,7 +27,6 @@ public final class NamesInMouths {
     private final Fen trial = new Fen();
     private final RuleReader reader = new RuleReader();
     private final Past past = new Past();
-    private final Shelf shelf = new Shelf();
     private final Ways ways = new Ways();
     private final Dyke dyke = new Dyke();
     private final Ear ear = new Ear();
@@ -57,8 +56,7 @@ public final class NamesInMouths {
             return -1 - wrong;
         }
         if (lines > 0) {
-            past.size = 0;
-            shelf.empties();
+            past.forgetsAll();
         }
         return lines;
     }
@@ -424,7 +422,7 @@ public final class NamesInMouths {
         int ahead = -1;
         for (int i = 0; i < fen.size && left > 0; i++) {
             int purse = fen.purse[dyke.row[i]];
-            if (dyke.least[i] == left && purse > ahead) {
+            if (dyke.runs[i] == left && purse > ahead) {
                 told.adds(dyke.row[i]);
                 ahead = purse;
                 left--;
@@ -458,9 +456,8 @@ public final class NamesInMouths {
         }
         int best = 0;
         int fewest = MOST_PEOPLE + 1;
-        for (int what = 0; what <= Ear.CAN_SAY; what++) {
-            int values = what == Ear.HOLDER || what == Ear.AT || what == Ear.CAN_SAY ? Ear.values(what) : 0;
-            for (int v = 0; v < values; v++) {
+        for (int what : Ear.ASKED) {
+            for (int v = 0; v < Ear.values(what); v++) {
                 int left = ear.mostLeft(fen, ruling, names, what, v);
                 if (left < fewest) {
                     fewest = left;
@@ -604,15 +601,11 @@ public final class NamesInMouths {
     // ---- kept
 
     public boolean keep(int i) {
-        return shelf.puts(i, fen);
+        return past.shelves(i, fen);
     }
 
     public boolean again(int i) {
-        boolean done = shelf.bringsBack(i, fen);
-        if (done) {
-            past.size = 0;
-        }
-        return done;
+        return past.unshelves(i, fen);
     }
 
     public int count(int what) {
@@ -901,8 +894,11 @@ public final class NamesInMouths {
             said = from.said;
         }
 
-        /** Writes what undo() brings back; 'at' leaves room for NUMBERS. */
+        /** Writes what undo() brings back. */
         void writes(int[] to, int at) {
+            if (at < 0 || at > to.length - NUMBERS) {
+                return;
+            }
             System.arraycopy(place, 0, to, at, MOST_PEOPLE);
             System.arraycopy(purse, 0, to, at + MOST_PEOPLE, MOST_PEOPLE);
             System.arraycopy(holder, 0, to, at + 2 * MOST_PEOPLE, MOST_PEOPLE);
@@ -912,6 +908,9 @@ public final class NamesInMouths {
         }
 
         void readsBack(int[] from, int at) {
+            if (at < 0 || at > from.length - NUMBERS) {
+                return;
+            }
             System.arraycopy(from, at, place, 0, MOST_PEOPLE);
             System.arraycopy(from, at + MOST_PEOPLE, purse, 0, MOST_PEOPLE);
             System.arraycopy(from, at + 2 * MOST_PEOPLE, holder, 0, MOST_PEOPLE);
@@ -1105,10 +1104,7 @@ public final class NamesInMouths {
         int size;
 
         Rule() {
-            steps[0] = THING + 'v';
-            steps[1] = THING + 'f';
-            steps[2] = THING + '-';
-            size = 3;
+            becomesNone();
         }
 
         void becomesNone() {
@@ -1317,13 +1313,15 @@ public final class NamesInMouths {
         }
     }
 
-    /** What can be undone: the latest fens, one behind another in a ring of one row. */
+    /** Fens as they were, in slots of one row: those that can be undone, and behind them those that are kept. */
     private static final class Past {
         static final int MOST = 12;
-        // one slot more than are kept, so that a mark that is not kept costs no older one
+        // one slot more than can be undone, so that a mark that is not kept costs no older one
         static final int SLOTS = MOST + 1;
-        private final int[] slots = new int[SLOTS * Fen.NUMBERS];
+        static final int SHELVES = 2;
+        private final int[] slots = new int[(SLOTS + SHELVES) * Fen.NUMBERS];
         private int free;
+        private int shelved;
         int size;
 
         void marks(Fen fen) {
@@ -1344,33 +1342,29 @@ public final class NamesInMouths {
             fen.readsBack(slots, free * Fen.NUMBERS);
             return true;
         }
-    }
 
-    /** What is kept under the numbers 0 and 1. */
-    private static final class Shelf {
-        static final int NUMBERS = 2;
-        private final int[] slots = new int[NUMBERS * Fen.NUMBERS];
-        private int full;
-
-        void empties() {
-            full = 0;
-        }
-
-        boolean puts(int i, Fen fen) {
-            if (i < 0 || i >= NUMBERS) {
+        boolean shelves(int i, Fen fen) {
+            if (i < 0 || i >= SHELVES) {
                 return false;
             }
-            fen.writes(slots, i * Fen.NUMBERS);
-            full |= 1 << i;
+            fen.writes(slots, (SLOTS + i) * Fen.NUMBERS);
+            shelved |= 1 << i;
             return true;
         }
 
-        boolean bringsBack(int i, Fen fen) {
-            if (i < 0 || i >= NUMBERS || (full >> i & 1) == 0) {
+        boolean unshelves(int i, Fen fen) {
+            if (i < 0 || i >= SHELVES || (shelved >> i & 1) == 0) {
                 return false;
             }
-            fen.readsBack(slots, i * Fen.NUMBERS);
+            fen.readsBack(slots, (SLOTS + i) * Fen.NUMBERS);
+            size = 0;
             return true;
+        }
+
+        /** PEOPLE came: no fen of before is of as many. */
+        void forgetsAll() {
+            size = 0;
+            shelved = 0;
         }
     }
 
@@ -1380,6 +1374,8 @@ public final class NamesInMouths {
         static final int MOST_TURNS = 6;
         private final int[] from = new int[MOST_PEOPLE];
         private final int[] queue = new int[MOST_PEOPLE];
+        private int queued;
+        private int met;
         private final int[] way = new int[MOST_SAYINGS];
         private final int[] those = new int[MOST_TURNS];
         private final int[] turn = new int[MOST_TURNS];
@@ -1395,46 +1391,40 @@ public final class NamesInMouths {
 
         /**
          * The fewest sayings by which one HOLDS a NAME, or below 0. Once it is said, all hangs on its HOLDER
-         * alone: so each is met once, and by the least row, as those of a level stand in the order of theirs.
+         * alone: so each is met once, and by the least row, as those met stand in the order of theirs.
          */
         int toHold(Fen trial, Rule by, int name, int one) {
             if (trial.holder[name] == one) {
                 return 0;
             }
-            int met = 0;
-            int ends = meets(trial.sayers(by, name), met, 0, NOBODY);
-            met = trial.sayers(by, name);
+            met = 0;
+            queued = 0;
+            meets(trial.sayers(by, name), NOBODY);
             trial.age[name] = 0;
             int begins = 0;
             for (int sayings = 1; sayings <= MOST_SAYINGS; sayings++) {
                 if ((met >> one & 1) == 1) {
                     return traces(one, sayings);
                 }
-                int levelEnds = ends;
-                for (int i = begins; i < levelEnds; i++) {
+                int ends = queued;
+                for (int i = begins; i < ends; i++) {
                     trial.holder[name] = queue[i];
-                    int next = trial.sayers(by, name);
-                    ends = meets(next, met, ends, queue[i]);
-                    met |= next;
+                    meets(trial.sayers(by, name), queue[i]);
                 }
-                begins = levelEnds;
+                begins = ends;
             }
             return -1;
         }
 
-        private int meets(int next, int met, int ends, int before) {
-            int end = ends;
-            for (int one = 0; one < MOST_PEOPLE && end < MOST_PEOPLE; one++) {
-                if ((next & ~met) >> one == 0) {
-                    break;
-                }
-                if (((next & ~met) >> one & 1) == 1) {
+        private void meets(int those, int before) {
+            for (int one = 0; one < MOST_PEOPLE; one++) {
+                if (((those & ~met) >> one & 1) == 1 && queued < MOST_PEOPLE) {
+                    met |= 1 << one;
                     from[one] = before;
-                    queue[end] = one;
-                    end++;
+                    queue[queued] = one;
+                    queued++;
                 }
             }
-            return end;
         }
 
         private int traces(int one, int sayings) {
@@ -1500,8 +1490,10 @@ public final class NamesInMouths {
         static final int SETS = 1 << MOST_PEOPLE;
         static final int TOO_MUCH = 1000;
         final int[] row = new int[MOST_PEOPLE];
-        /** By sets (mouths) the least that the rest costs; by places in line (rich) the longest row from there. */
-        final int[] least = new int[SETS];
+        /** By the sets of those who HOLD one already: the least that the other NAMES cost. */
+        private final int[] least = new int[SETS];
+        /** By places in line: the longest rich row that begins there. */
+        final int[] runs = new int[MOST_PEOPLE];
 
         int sharesMouths(Fen fen) {
             int all = (1 << fen.size) - 1;
@@ -1584,13 +1576,13 @@ public final class NamesInMouths {
         int longestFrom(Fen fen) {
             int longest = 0;
             for (int i = fen.size - 1; i >= 0; i--) {
-                least[i] = 1;
+                runs[i] = 1;
                 for (int j = i + 1; j < fen.size; j++) {
                     if (fen.purse[row[j]] > fen.purse[row[i]]) {
-                        least[i] = Math.max(least[i], least[j] + 1);
+                        runs[i] = Math.max(runs[i], runs[j] + 1);
                     }
                 }
-                longest = Math.max(longest, least[i]);
+                longest = Math.max(longest, runs[i]);
             }
             return longest;
         }
@@ -1603,6 +1595,8 @@ public final class NamesInMouths {
         static final int OWNS = 2;
         static final int AT = 3;
         static final int CAN_SAY = 4;
+        /** HOLDER, AT and CAN_SAY. */
+        static final int[] ASKED = {0, 3, 4};
         static final int MOST = 12;
         private final int[] whats = new int[MOST];
         private final int[] of = new int[MOST];
