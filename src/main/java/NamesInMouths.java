@@ -1097,7 +1097,7 @@ public final class NamesInMouths {
     /** A rule as steps over a stack: a number below THING stands for itself, others are THING and a sign. */
     private static final class Rule {
         static final int THING = 1000;
-        static final int NEGATE = THING + '~';
+        static final int NEGATE = '~';
         final int[] steps = new int[RULE_SIGNS];
         // every step puts at most one number, so that there is room for all
         final int[] stack = new int[RULE_SIGNS];
@@ -1124,37 +1124,23 @@ public final class NamesInMouths {
         int worth(Fen fen, int one, int name) {
             int top = 0;
             for (int i = 0; i < size && i < RULE_SIGNS; i++) {
-                int step = steps[i];
-                if (isJoin(step)) {
-                    if (top >= 2) {
-                        top--;
-                        stack[top - 1] = joined(step - THING, stack[top - 1], stack[top]);
+                int sign = steps[i] - THING;
+                // letters stand behind all signs that join
+                if (sign < 0 || sign >= 'a' && sign != NEGATE) {
+                    if (top < RULE_SIGNS) {
+                        stack[top] = sign < 0 ? steps[i] : thing(sign, fen, one, name);
+                        top++;
                     }
-                } else if (step == NEGATE) {
+                } else if (sign == NEGATE) {
                     if (top >= 1) {
                         stack[top - 1] = -stack[top - 1];
                     }
-                } else if (top < RULE_SIGNS) {
-                    stack[top] = step < THING ? step : thing(step - THING, fen, one, name);
-                    top++;
+                } else if (top >= 2) {
+                    top--;
+                    stack[top - 1] = joined(sign, stack[top - 1], stack[top]);
                 }
             }
             return stack[0];
-        }
-
-        private static boolean isJoin(int step) {
-            switch (step - THING) {
-                case '<':
-                case '>':
-                case '=':
-                case '+':
-                case '-':
-                case '*':
-                case '/':
-                    return true;
-                default:
-                    return false;
-            }
         }
 
         private static int joined(int sign, int a, int b) {
@@ -1174,7 +1160,7 @@ public final class NamesInMouths {
             switch (sign) {
                 case 'v': return fen.voice[one];
                 case 'u': return fen.voice[holder];
-                case 'f': return fen.far(one, holder);
+                case 'f': return Math.abs(fen.place[one] - fen.place[holder]);
                 case 'h': return Integer.bitCount(fen.held(one));
                 case 'a': return fen.age[name];
                 case 'o': return one == name ? 1 : 0;
@@ -1263,7 +1249,7 @@ public final class NamesInMouths {
                 return false;
             }
             if (negative) {
-                rule.puts(Rule.NEGATE);
+                rule.puts(Rule.THING + Rule.NEGATE);
             }
             return true;
         }
@@ -1372,6 +1358,7 @@ public final class NamesInMouths {
     private static final class Ways {
         static final int MOST_SAYINGS = 4;
         static final int MOST_TURNS = 6;
+        static final int TURN_SETS = 1 << MOST_TURNS;
         private final int[] from = new int[MOST_PEOPLE];
         private final int[] queue = new int[MOST_PEOPLE];
         private int queued;
@@ -1379,9 +1366,12 @@ public final class NamesInMouths {
         private final int[] way = new int[MOST_SAYINGS];
         private final int[] those = new int[MOST_TURNS];
         private final int[] turn = new int[MOST_TURNS];
+        /** By who had their turns: whose NAMES had come home by them (bits of sets) when it was tried from there. */
+        private final long[] tried = new long[TURN_SETS];
         final int[] best = new int[MOST_TURNS];
         int turns;
         private int most;
+        private int homesAtFirst;
         private Fen fen;
         private Rule rule;
 
@@ -1447,16 +1437,24 @@ public final class NamesInMouths {
                     turns++;
                 }
             }
+            for (int had = 0; had < TURN_SETS; had++) {
+                tried[had] = 0;
+            }
+            homesAtFirst = Integer.bitCount(fen.homes());
             most = -1;
-            takesTurn(0, 0, Integer.bitCount(fen.homes()));
+            takesTurn(0, 0, 0);
             return most;
         }
 
-        private void takesTurn(int depth, int had, int homes) {
+        /** 'had': who had their turns; 'came': whose NAMES came home by them. */
+        private void takesTurn(int depth, int had, int came) {
+            int homes = homesAtFirst + Integer.bitCount(came);
             // orders come from the least on, so that one that is but as good is of no use
-            if (homes + turns - depth <= most) {
+            boolean useless = homes + turns - depth <= most || (tried[had] >> came & 1) == 1;
+            if (useless) {
                 return;
             }
+            tried[had] |= 1L << came;
             if (depth >= turns) {
                 most = homes;
                 System.arraycopy(turn, 0, best, 0, MOST_TURNS);
@@ -1465,21 +1463,22 @@ public final class NamesInMouths {
             for (int i = 0; i < turns; i++) {
                 if ((had >> i & 1) == 0) {
                     turn[depth] = those[i];
-                    saysOwn(those[i], depth + 1, had | 1 << i, homes);
+                    saysOwn(i, depth, had, came);
                 }
             }
         }
 
-        private void saysOwn(int one, int depth, int had, int homes) {
+        private void saysOwn(int i, int depth, int had, int came) {
+            int one = those[i];
             if (!fen.can(rule, one, one)) {
-                takesTurn(depth, had, homes);
+                takesTurn(depth + 1, had | 1 << i, came);
                 return;
             }
             int holder = fen.holder[one];
             int age = fen.age[one];
             fen.holder[one] = one;
             fen.age[one] = 0;
-            takesTurn(depth, had, homes + 1);
+            takesTurn(depth + 1, had | 1 << i, came | 1 << i);
             fen.holder[one] = holder;
             fen.age[one] = age;
         }

@@ -44,6 +44,9 @@ public final class ActsTest {
         Due.is("no such NAME", due.names.signs(3, 1), -1);
         Due.is("no such NAME", due.names.signs(-1, 1), -1);
         Due.is("PURSES together are as they were", due.names.count(4), 111);
+        due.names.sheet(2, 2, 0, 99);
+        due.names.says(0, 1);
+        Due.is("for 99", due.names.signs(1, 99), 99);
     }
 
     private static void moves() {
@@ -70,6 +73,8 @@ public final class ActsTest {
         Due.is("none such", due.names.calls(4), -1);
         Due.is("none such", due.names.calls(-1), -1);
         Due.is("what was done", due.names.count(9), 2);
+        due.rule("o-1");
+        Due.is("one alone", due.names.calls(1), 1);
     }
 
     private static void daysSayBack() {
@@ -135,6 +140,7 @@ public final class ActsTest {
         Due.is("PURSE of 1", due.names.one(1, 2), 27);
         Due.is("NAMES of 2", due.names.one(2, 3), 7);
         Due.is("one thing can be undone", due.names.count(9), 1);
+        Due.is("a week that was done empties THE TEXT", due.names.count(11), 0);
         Due.is("till one can't be", due.week("n1m25n9"), 1);
         due.row("till one can't be", 1, 7);
         Due.is("nothing behind it is done", due.names.count(1), 2);

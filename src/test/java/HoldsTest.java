@@ -138,6 +138,10 @@ public final class HoldsTest {
         due.names.says(6, 5);
         Due.is("0, 1 2, 4 5 6", due.names.rings(), 3);
         due.row("the largest", 3, 4);
+        due = Due.of("0900;0900", "9");
+        due.names.says(1, 0);
+        Due.is("0 is in none", due.names.rings(), 1);
+        due.row("1 alone", 1, 1);
         due = new Due();
         due.names.days(0);
         Due.is("nobody", due.names.rings(), 0);
@@ -154,6 +158,9 @@ public final class HoldsTest {
         due.names.says(1, 0);
         Due.is("1 robs 0", due.names.robs(1), 90);
         due.row("1 robs 0", 0);
+        due.names.says(1, 2);
+        Due.is("1 robs 0 and 2", due.names.robs(1), 120);
+        due.row("the more", 0);
         due.names.sheet(2, 0, 0, 0);
         Due.is("there is nothing", due.names.robs(0), 0);
         due.row("of like ones the first", 1);

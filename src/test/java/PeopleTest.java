@@ -223,6 +223,9 @@ public final class PeopleTest {
         Due.is("missing, n below 0", due.names.sheet(3, -5, 1, 1), -3);
         purses("missing", due, 0, 0, 0);
         Due.is("sheets can't be undone", due.names.count(9), 0);
+        due = Due.of(SEVEN, "");
+        Due.is("seven", due.names.sheet(2, 7, 10, 1), 91);
+        purses("seven", due, 10, 11, 12, 13, 14, 15, 16);
     }
 
     public static void main(String[] args) {

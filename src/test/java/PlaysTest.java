@@ -52,6 +52,12 @@ public final class PlaysTest {
         hushed(due, 2, 3, 1, 0, 1);
         hushed(due, 4, 1, 1, 1, 0);
         hushed(due, 3, 3, 1, 0, 2);
+        hushed(due, 4, 4, 0);
+        hushed(due, 20, 20, 1, 0, 17);
+        hushed(due, 20, 3, 0);
+        hushed(due, 19, 20, 1, 0, 19);
+        hushed(due, 7, 20, 1, 4, 0);
+        hushed(due, 3, 3, 1, 0, 2);
         int[][] wrong = {{-1, 0}, {0, -1}, {21, 0}, {0, 21}};
         for (int[] w : wrong) {
             Due.is("hush beside all", due.names.hush(w[0], w[1]), -1);
@@ -142,7 +148,8 @@ public final class PlaysTest {
             Due due = Due.of("0510;1599;2501;9520;4307", "");
             hasYears(due, Due.of("0510;1599;2501;9520;4307", ""), seed, 60);
             Due.is("years are no days() that can be undone", due.names.count(9), 0);
-            hasYears(Due.of("3412", ""), Due.of("3412", ""), seed, 1);
+            hasYears(Due.of("3412;4412", ""), Due.of("3412;4412", ""), seed, 1);
+            hasYears(Due.of("3412", ""), Due.of("3412", ""), seed, 60);
         }
         Due due = new Due();
         // R by 65536 of seed 1: 2, 2, 1, 3, 3, 3, 2, 3, 0 of 4, without any other DRAW
