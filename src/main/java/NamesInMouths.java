@@ -590,12 +590,12 @@ public final class NamesInMouths {
             return NONE;
         }
         plays.lot = seed;
-        int before = fen.said;
+        trial.takes(fen);
         for (int i = 0; i < n; i++) {
-            drawnAct(plays.draw(4));
+            triesDrawn(plays.draw(4));
         }
-        told.tells(fen.said - before, fen.purses());
-        return fen.homes();
+        told.tells(trial.said - fen.said, trial.purses());
+        return trial.homes();
     }
 
     // ---- kept
@@ -737,15 +737,16 @@ public final class NamesInMouths {
         }
     }
 
-    private void drawnAct(int kind) {
+    /** One of the years' acts; on the trial, since years() asks and changes nothing. */
+    private void triesDrawn(int kind) {
         if (kind == 0) {
-            fen.passDay(ruling, NOBODY);
-        } else if (fen.size > 0) {
-            int one = plays.draw(fen.size);
+            trial.passDay(ruling, NOBODY);
+        } else if (trial.size > 0) {
+            int one = plays.draw(trial.size);
             if (kind == 3) {
-                fen.movedTo(one, plays.draw(PLACES));
+                trial.movedTo(one, plays.draw(PLACES));
             } else {
-                fen.saidBy(ruling, one, plays.draw(fen.size));
+                trial.saidBy(ruling, one, plays.draw(trial.size));
             }
         }
     }

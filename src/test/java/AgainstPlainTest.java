@@ -185,7 +185,10 @@ public final class AgainstPlainTest {
         bothRead("people", peopleText());
         if (draw.nextBoolean()) {
             bothRead("rule", "9");
-            both("years", draw.nextInt(), 40);
+            for (int i = 0; i < 30; i++) {
+                both(draw.nextInt(3) == 0 ? "moves" : "says", draw.nextInt(7), draw.nextInt(7));
+            }
+            both("days", draw.nextInt(3));
             bothRead("rule", ruleText());
         }
     }

@@ -1121,7 +1121,8 @@ final class Plain {
             return -1;
         }
         lot = seed;
-        int before = w.said;
+        World before = w;
+        w = w.copy();
         for (int i = 0; i < n; i++) {
             int kind = draw(4);
             if (kind == 0) {
@@ -1136,8 +1137,10 @@ final class Plain {
                 }
             }
         }
-        tell(w.said - before, w.purses());
-        return bits(w.homes());
+        tell(w.said - before.said, w.purses());
+        int home = bits(w.homes());
+        w = before;
+        return home;
     }
 
     boolean keep(int i) {

@@ -132,50 +132,77 @@ public final class PlaysTest {
                 }
             }
         }
+        String ahead = state(due);
         Due.is("years(" + seed + ", " + n + ")", due.names.years(seed, n), twin.names.count(3));
         due.row("years", twin.names.count(2) - said, twin.names.count(4));
-        for (int what = 0; what <= 6; what++) {
-            Due.is("count(" + what + ") behind years", due.names.count(what), twin.names.count(what));
+        Due.is("years change nothing of " + ahead, state(due).equals(ahead), true);
+    }
+
+    /** All that can be asked for but the ROW. */
+    private static String state(Due due) {
+        StringBuilder state = new StringBuilder();
+        for (int what = 0; what <= 11; what++) {
+            if (what != 10) {
+                state.append(due.names.count(what)).append(' ');
+            }
         }
-        for (int one = 0; one < people; one++) {
-            Due.is("PLACE behind years", due.names.one(one, 0), twin.names.one(one, 0));
-            Due.is("HOLDER behind years", due.names.name(one, 0), twin.names.name(one, 0));
+        for (int one = 0; one < due.names.count(0); one++) {
+            for (int what = 0; what <= 4; what++) {
+                state.append(due.names.one(one, what)).append(' ');
+            }
+            state.append(due.names.name(one, 0)).append(' ').append(due.names.name(one, 1)).append(' ');
         }
+        return state.toString();
     }
 
     private static void years() {
         for (int seed : new int[] {0, 1, 7, -1, 123456789, Integer.MIN_VALUE, Integer.MAX_VALUE}) {
-            Due due = Due.of("0510;1599;2501;9520;4307", "");
-            hasYears(due, Due.of("0510;1599;2501;9520;4307", ""), seed, 60);
-            Due.is("years are no days() that can be undone", due.names.count(9), 0);
+            hasYears(Due.of("0510;1599;2501;9520;4307", ""), Due.of("0510;1599;2501;9520;4307", ""), seed, 60);
             hasYears(Due.of("3412;4412", ""), Due.of("3412;4412", ""), seed, 1);
             hasYears(Due.of("3412", ""), Due.of("3412", ""), seed, 60);
         }
         Due due = new Due();
         // R by 65536 of seed 1: 2, 2, 1, 3, 3, 3, 2, 3, 0 of 4, without any other DRAW
-        Due.is("nobody, 8 times", due.names.years(1, 8), 0);
-        Due.is("no DAY", due.names.count(1), 0);
         Due.is("nobody, 9 times", due.names.years(1, 9), 0);
-        Due.is("A DAY", due.names.count(1), 1);
         due.row("nobody", 0, 0);
+        Due.is("a DAY of the years is no DAY", due.names.count(1), 0);
         Due.is("0 times", due.names.years(1, 0), -1);
         Due.is("61 times", due.names.years(1, 61), -1);
         Due.is("-1 times", due.names.years(1, -1), -1);
-        Due.is("no DAY more", due.names.count(1), 1);
     }
 
+    /** Years asked for behind sayings and days: they begin where all is then, and undo() knows nothing of them. */
+    private static void yearsLater() {
+        Due due = Due.of("0510;1599;2501;9520;4307", "v-f+n-a");
+        Due twin = Due.of("0510;1599;2501;9520;4307", "v-f+n-a");
+        for (int seed = 0; seed < 8; seed++) {
+            for (Due each : new Due[] {due, twin}) {
+                each.names.calls(seed % 5);
+                each.names.days(2);
+            }
+            twin.names.keep(0);
+            hasYears(due, twin, seed, 20);
+            Due.is("the same years again", due.names.years(seed, 20), twin.names.count(3));
+            twin.names.again(0);
+        }
+        Due.is("what can be undone", due.names.count(9), 12);
+        int day = due.names.count(1);
+        due.names.years(3, 60);
+        due.names.undo();
+        Due.is("days(2) are undone, not the years", due.names.count(1), day - 2);
+    }
+
+    /** No run of 512 calls says so much: behind these the class still keeps to what the Terms tell of SAID. */
     private static void saidAtMost() {
         Due due = Due.of("0000;0000;0000;0000;0000;0000;0000", "9");
-        for (int i = 0; i < 400 && due.names.count(2) < 9999; i++) {
-            due.names.years(i, 60);
+        for (int i = 0; i < 2000 && due.names.count(2) < 9999; i++) {
+            due.names.calls(i % 7);
         }
         Due.is("SAID is 9999 at most", due.names.count(2), 9999);
         due.names.calls(0);
         Due.is("SAID stays", due.names.count(2), 9999);
         due.names.days(1);
         due.row("SAID more, as it grew", 0, 0);
-        due.names.undo();
-        due.names.undo();
         due.names.years(5, 60);
         due.row("SAID more in these", 0, 0);
     }
@@ -186,6 +213,7 @@ public final class PlaysTest {
         rests();
         law();
         years();
+        yearsLater();
         saidAtMost();
         Due.ends();
     }
