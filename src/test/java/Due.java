@@ -6,6 +6,8 @@ final class Due {
     static final String THROWS = "throws.NoSuchElementException";
     private static int wrong = 0;
     private static int asked = 0;
+    /** Ahead of each wrong answer: what is being tested. */
+    private static String within = "";
     final NamesInMouths names = new NamesInMouths();
 
     /** A call that may throw. */
@@ -13,11 +15,19 @@ final class Due {
         long answer();
     }
 
+    static void within(String what) {
+        within = what.isEmpty() ? "" : what + ": ";
+    }
+
+    static int asked() {
+        return asked;
+    }
+
     static void is(String what, long got, long due) {
         asked++;
         if (got != due) {
             wrong++;
-            System.out.println(what + " answered " + got + ", due is " + due);
+            System.out.println(within + what + " answered " + got + ", due is " + due);
         }
     }
 
@@ -30,7 +40,7 @@ final class Due {
         try {
             long got = call.answer();
             wrong++;
-            System.out.println(what + " answered " + got + ", due is " + THROWS);
+            System.out.println(within + what + " answered " + got + ", due is " + THROWS);
         } catch (NoSuchElementException e) {
             return;
         }
@@ -76,6 +86,30 @@ final class Due {
     int law(String text) {
         text(text);
         return names.law();
+    }
+
+    /** All that can be asked for without telling anything, but for THE TEXT and the ROW. */
+    String state() {
+        StringBuilder state = new StringBuilder();
+        for (int what = 0; what <= 9; what++) {
+            state.append(names.count(what)).append(' ');
+        }
+        for (int one = 0; one < names.count(0); one++) {
+            for (int what = 0; what <= 4; what++) {
+                state.append(names.one(one, what)).append(' ');
+            }
+            state.append(names.name(one, 0)).append(' ').append(names.name(one, 1)).append(' ');
+        }
+        return state.toString();
+    }
+
+    /** The ROW as a text. */
+    String told() {
+        StringBuilder told = new StringBuilder();
+        for (int i = 0; i < names.count(10); i++) {
+            told.append(names.row(i)).append(' ');
+        }
+        return told.toString();
     }
 
     /** An object with these PEOPLE and this RULE. */

@@ -132,27 +132,10 @@ public final class PlaysTest {
                 }
             }
         }
-        String ahead = state(due);
+        String ahead = due.state();
         Due.is("years(" + seed + ", " + n + ")", due.names.years(seed, n), twin.names.count(3));
         due.row("years", twin.names.count(2) - said, twin.names.count(4));
-        Due.is("years change nothing of " + ahead, state(due).equals(ahead), true);
-    }
-
-    /** All that can be asked for but the ROW. */
-    private static String state(Due due) {
-        StringBuilder state = new StringBuilder();
-        for (int what = 0; what <= 11; what++) {
-            if (what != 10) {
-                state.append(due.names.count(what)).append(' ');
-            }
-        }
-        for (int one = 0; one < due.names.count(0); one++) {
-            for (int what = 0; what <= 4; what++) {
-                state.append(due.names.one(one, what)).append(' ');
-            }
-            state.append(due.names.name(one, 0)).append(' ').append(due.names.name(one, 1)).append(' ');
-        }
-        return state.toString();
+        Due.is("years change nothing of " + ahead, due.state().equals(ahead), true);
     }
 
     private static void years() {
