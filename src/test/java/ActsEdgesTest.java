@@ -241,6 +241,10 @@ public final class ActsEdgesTest {
         }
         due.names.moves(0, 3);
         Due.is("12 of 13", due.names.count(9), 12);
+        due.names.moves(0, 3);
+        due.names.says(0, 0);
+        due.names.days(0);
+        Due.is("12 still", due.names.count(9), 12);
         for (int left = 11; left >= 0; left--) {
             Due.is("undo", due.names.undo(), left);
             Due.is("PLACE", due.names.one(0, 0), (left + 1) % 10);
@@ -300,16 +304,26 @@ public final class ActsEdgesTest {
         Due.is("DAY", due.names.count(1), 0);
     }
 
+    private static int does(Due due, int act) {
+        return switch (act) {
+            case 0 -> due.names.says(0, 1);
+            case 1 -> due.names.signs(2, 1);
+            case 2 -> due.names.moves(0, 9);
+            case 3 -> due.names.calls(1);
+            case 4 -> due.names.days(3);
+            default -> due.week("s01m09g201c1n3");
+        };
+    }
+
     private static void undoneAsAhead() {
-        String[] acts = {"s01", "g201", "m09", "c1", "n3", "s01m09g201c1n3"};
-        for (String act : acts) {
+        for (int act = 0; act <= 5; act++) {
             Due due = Due.of(THREE, "9");
-            due.names.says(1, 2);
             due.names.days(2);
             due.names.says(1, 2);
+            due.names.says(2, 0);
             String state = due.state();
-            Due.is(act + " is done", due.week(act) > 0, true);
-            Due.is(act + " changes something", due.state().equals(state), false);
+            Due.is("act " + act + " is done", does(due, act) >= 0, true);
+            Due.is("act " + act + " changes something", due.state().equals(state), false);
             Due.is("undo " + act, due.names.undo(), 3);
             unchanged(due, state);
         }

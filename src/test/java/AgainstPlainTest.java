@@ -7,8 +7,10 @@ import java.util.Random;
 
 /** Runs drawn by fixed seeds, each call held against Plain: its answer, the ROW, all counts and all of PEOPLE. */
 public final class AgainstPlainTest {
-    private static final int RUNS = 400;
-    private static final int CALLS = 60;
+    private static final int RUNS = 2000;
+    /** An object is used for at most 512 calls: the last look at all takes some 130 of them. */
+    private static final int CALLS = 360;
+    private static final int HALF = 180;
     private static final String[] RULES = {"", "9", "0-1", "v-f", "u*2-f*3+h-a-o*9+n", "v-f-h", "o*9+v-f", "3-a",
         "(v>u)+(f<3)-1", "v/h-f/2", "a<3", "--v-f", "(((v-f)*2)-(h))-1", "999*999*999*999-1", "o-1", "f-2",
         "n-3", "v-f+o*4-a/2", "h=0", "-(h>1)", "v*(f=0)-1", "9/(v-v)-f", "-o", "a-1+o", "(f=1)+(f=2)-1", "1-(f>1)-a",
@@ -25,6 +27,7 @@ public final class AgainstPlainTest {
     private final Random draw;
     private final NamesInMouths names = new NamesInMouths();
     private final Plain plain = new Plain();
+    private int calls = 0;
 
     private AgainstPlainTest(long seed) {
         draw = new Random(seed);
@@ -59,6 +62,7 @@ public final class AgainstPlainTest {
         for (int i = 0; i < given.length; i++) {
             given[i] = args[i];
         }
+        calls++;
         long got = answer(names, OF_CLASS.get(call), given);
         long due = answer(plain, OF_PLAIN.get(call), given);
         if (got != due) {
@@ -79,14 +83,18 @@ public final class AgainstPlainTest {
         both("end", text.length());
     }
 
+    private void bothTold() {
+        both("count", 10);
+        for (int i = 0; i <= plain.count(10); i++) {
+            both("row", i);
+        }
+    }
+
     private void bothState() {
         for (int what = -1; what <= 12; what++) {
             both("count", what);
         }
-        for (int i = -1; i <= names.count(10); i++) {
-            both("row", i);
-        }
-        for (int one = 0; one < names.count(0); one++) {
+        for (int one = 0; one < plain.count(0); one++) {
             for (int what = 0; what <= 4; what++) {
                 both("one", one, what);
                 both("name", one, what);
@@ -193,19 +201,29 @@ public final class AgainstPlainTest {
         }
     }
 
+    private void drawsCall() {
+        String call = CALLED[draw.nextInt(CALLED.length)];
+        switch (call) {
+            case "people" -> bothRead(call, spoilt(peopleText()));
+            case "week" -> bothRead(call, spoilt(weekText()));
+            case "rule", "law" -> bothRead(call, spoilt(ruleText()));
+            case "years" -> both(call, draw.nextInt(), number());
+            default -> both(call, number(), number(), number(), number());
+        }
+        bothTold();
+    }
+
     private void run() {
         begins();
-        for (int i = 0; i < CALLS; i++) {
-            String call = CALLED[draw.nextInt(CALLED.length)];
-            switch (call) {
-                case "people" -> bothRead(call, spoilt(peopleText()));
-                case "week" -> bothRead(call, spoilt(weekText()));
-                case "rule", "law" -> bothRead(call, spoilt(ruleText()));
-                case "years" -> both(call, draw.nextInt(), number());
-                default -> both(call, number(), number(), number(), number());
-            }
-            bothState();
+        while (calls < HALF) {
+            drawsCall();
         }
+        bothState();
+        while (calls < CALLS) {
+            drawsCall();
+        }
+        bothState();
+        Due.is("calls of one object are 512 at most", calls <= 512, true);
     }
 
     public static void main(String[] args) {

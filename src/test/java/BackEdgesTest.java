@@ -43,9 +43,15 @@ public final class BackEdgesTest {
         Due due = shifted(THREE, 0, 2);
         Due.is("all can", due.names.order(), 3);
         due.row("all can", 0, 1, 2);
+        due = shifted("0910;0920;0930;0940", 0, 3);
         due.rule("0-1");
         Due.is("nobody can", due.names.order(), 0);
-        due.row("who can't is in it, too", 0, 1, 2);
+        due.row("who can't is in it, too", 0, 1, 2, 3);
+        // who HOLDS none can't: of two who HOLD each other's, one comes home
+        due = shifted("0910;0920", 0, 1);
+        due.rule("h-1");
+        Due.is("0 or 1", due.names.order(), 1);
+        due.row("0", 0, 1);
         // NAMES: 0 by 1, 1 by 2, 2 by 0, 3 by 0; who HOLDS none can: 3 alone, whenever it is his turn; then 0 HOLDS one
         due = Due.of("0910;0920;0930;0940", "9");
         due.names.says(1, 0);
@@ -65,6 +71,13 @@ public final class BackEdgesTest {
         Due due = shifted(SEVEN, 1, 6);
         Due.is("six, and 0 HOLDS his own", due.names.order(), 7);
         due.row("six", 1, 2, 3, 4, 5, 6);
+        // 5 has no VOICE and can while he HOLDS the NAME of 0
+        due = Due.of("0910;0920;0930;0940;0950;0060;0970", "9");
+        due.names.calls(6);
+        due.names.says(5, 0);
+        due.rule("v+h-1");
+        Due.is("5 ahead of 0", due.names.order(), 7);
+        due.row("5 ahead of 0", 1, 2, 3, 4, 5, 0);
         due = shifted(SEVEN, 0, 6);
         Due.is("six of seven", due.names.order(), 6);
         due.row("the first six", 0, 1, 2, 3, 4, 5);
@@ -143,6 +156,11 @@ public final class BackEdgesTest {
         due.row("to two at 9", 2, 4);
         Due.is("he is where he was", due.names.one(0, 0), 5);
         Due.is("one alone stays", Due.of("7900", "").names.goes(0), 7);
+        due = Due.of("5000;0000", "f-10");
+        Due.is("there is no PLACE 10 off", due.names.goes(0), 5);
+        due.row("there is no PLACE 10 off", 0, 0);
+        due.rule("f-9");
+        Due.is("9 off", due.names.goes(0), 9);
     }
 
     private static void goesNearest() {

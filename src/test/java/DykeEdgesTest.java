@@ -137,6 +137,9 @@ public final class DykeEdgesTest {
         due = Due.of("0050;1010;2060;3020;4070;5030", "");
         Due.is("three", due.names.rich(), 3);
         due.row("50 60 70", 0, 2, 4);
+        due = Due.of("0010;1020;2011;3012;4000", "");
+        Due.is("10 11 12", due.names.rich(), 3);
+        due.row("10 11 12, without 20", 0, 2, 3);
     }
 
     public static void main(String[] args) {

@@ -304,6 +304,9 @@ public final class HeardEdgesTest {
         tried(89, 54, 7, 1, 1);
         tried(39, 7, 2, 9, 0, 4, 9, 1);
         tried(99, 36, 3, 0, 1, 2, 6, 0);
+        // 10 off would leave fewer, but can't be
+        tried(23, 23, 6, 9, 1);
+        tried(34, 36, 8, 7, 1);
     }
 
     private static void triesLeast() {

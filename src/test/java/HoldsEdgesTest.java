@@ -28,6 +28,26 @@ public final class HoldsEdgesTest {
         Due.is("nothing is said", due.names.count(2), 0);
     }
 
+    private static void bringsAsItIsThen() {
+        // on the DAY on which it was said others can, too; later whose it is alone
+        Due due = away(THREE);
+        due.names.days(1);
+        due.rule("o*9-(a>0)");
+        Due.is("whose it is, then 2", due.names.brings(0, 2), 2);
+        due.row("whose it is, then 2", 0, 2);
+        // VOICE 1 can but from VOICE 5 on the DAY on which it was said: 0 must say his own anew
+        due = Due.of("0500;0700;0100", "(v=5)+(u=5)*(a=0)+(v=7)-1");
+        due.names.days(1);
+        Due.is("its HOLDER once more", due.names.brings(0, 2), 3);
+        due.row("its HOLDER once more", 1, 0, 2);
+        // who HOLDS one has no room for another
+        due = Due.of(THREE, "9");
+        due.names.says(2, 1);
+        due.rule("0-h");
+        Due.is("1 has room", due.names.brings(0, 1), 1);
+        Due.is("2 has none", due.names.brings(0, 2), -2);
+    }
+
     private static void bringsLeastRow() {
         Due due = Due.of("0200;1200;2200;3200", "");
         Due.is("by 1 or 2", due.names.brings(0, 3), 2);
@@ -98,6 +118,10 @@ public final class HoldsEdgesTest {
         due.rule("a-98");
         Due.is("in 99", due.names.home(0), 99);
         due.row("all are", 3);
+        due.rule("0-1");
+        due.names.days(3);
+        due.rule("n-6");
+        Due.is("from DAY 3 to DAY 6, and that one", due.names.home(0), 4);
     }
 
     private static void homeNot() {
@@ -243,6 +267,7 @@ public final class HoldsEdgesTest {
 
     public static void main(String[] args) {
         Edge.of(16, "The fewest SAYINGS (0 .. 4)", HoldsEdgesTest::bringsBy0To4);
+        Edge.of(16, "by any who CAN then, one behind the other", HoldsEdgesTest::bringsAsItIsThen);
         Edge.of(16, "(of as few the least row)", HoldsEdgesTest::bringsLeastRow);
         Edge.of(16, "-2: by no four; NONE: none such.", HoldsEdgesTest::bringsNot);
         Edge.of(17, "The HOLDER of a NAME in n DAYS (0 .. 99), nothing being done", HoldsEdgesTest::laterIn0To99);

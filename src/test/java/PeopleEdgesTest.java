@@ -179,17 +179,15 @@ public final class PeopleEdgesTest {
     private static void ruleLikewise() {
         Due due = Due.of(THREE, "9");
         String state = due.state();
-        String[] texts = {"x", "(", "v", "9+", "9+*1", "9-", "9v", "v9", "9)", "9(", ")", "*9", "=9", "9=", "9==9", "12345", " 9",
+        String[] texts = {"x", "(", "9+", "9+*1", "9-", "9v", "v9", "9)", "9(", ")", "*9", "=9", "9=", "9==9", "12345", " 9",
             "9 ", "N", ":", "/", "v/", "(9", "(9+", "((9)", "-", "--"};
-        int[] wrong = {0, 1, -1, 2, 2, 2, 1, 1, 1, 1, 0, 0, 0, 2, 2, 3, 0,
+        int[] wrong = {0, 1, 2, 2, 2, 1, 1, 1, 1, 0, 0, 0, 2, 2, 3, 0,
             1, 0, 0, 0, 2, 2, 3, 4, 1, 2};
         for (int i = 0; i < texts.length; i++) {
             Due.is("rule " + texts[i], due.rule(texts[i]), -1 - wrong[i]);
-            if (wrong[i] < 0) {
-                due.rule("9");
-            }
-            Due.is("rule " + texts[i] + " changes nothing", due.state().equals(state), true);
+            Due.is("rule " + texts[i] + " leaves THE RULE", due.names.one(0, 4), 6);
         }
+        Due.is("nothing changes", due.state().equals(state), true);
         ruleOf40();
     }
 
@@ -204,6 +202,8 @@ public final class PeopleEdgesTest {
         Due.is("40 signs, and 40 more", due.rule(forty + forty), -41);
         Due.is("40 signs that could go on", due.rule("1+".repeat(20)), -41);
         Due.is("40 signs that could go on, and one more", due.rule("1+".repeat(20) + "1"), -41);
+        Due.is("40 times -", due.rule("-".repeat(40)), -41);
+        Due.is("80 times -", due.rule("-".repeat(80)), -41);
         Due.is("wrong at 39, and more", due.rule(forty.substring(0, 39) + "x1"), -40);
         Due.is("( ) closed too late", due.rule("(" + forty.substring(0, 39) + ")"), -41);
         Due.is("( ) closed in time", due.rule("(" + forty.substring(0, 37) + ")"), 0);
@@ -239,6 +239,19 @@ public final class PeopleEdgesTest {
         Due.is("none", due.names.one(6, 4), 0);
         Due.is("none", due.names.one(0, 3), 0);
         Due.is("all", due.names.one(0, 4), 127);
+    }
+
+    private static void bitsOfName() {
+        Due due = Due.of(THREE, "9");
+        Due.is("all but its HOLDER", due.names.name(0, 2), 6);
+        Due.is("all but its HOLDER", due.names.name(2, 2), 3);
+        due.names.says(2, 0);
+        Due.is("whose it is, too", due.names.name(0, 2), 3);
+        due.rule("0-1");
+        Due.is("nobody", due.names.name(0, 2), 0);
+        due = Due.of(SEVEN, "9");
+        Due.is("six", due.names.name(6, 2), 63);
+        Due.is("six", due.names.name(0, 2), 126);
     }
 
     private static void noSuchName() {
@@ -348,6 +361,7 @@ public final class PeopleEdgesTest {
     private static void onesAndSheets() {
         Edge.of(6, "3: NAMES that he HOLDS (bits), 4: NAMES that he CAN SAY now (bits).", PeopleEdgesTest::bitsOfOne);
         Edge.of(6, "NoSuchElementException: none such, another what.", PeopleEdgesTest::noSuchOne);
+        Edge.of(7, "2: who CAN SAY it now (bits)", PeopleEdgesTest::bitsOfName);
         Edge.of(7, "NoSuchElementException: likewise.", PeopleEdgesTest::noSuchName);
         Edge.of(8, "(of bytes, shorts the lowest bits, with their sign; put to 0 .. 99)", PeopleEdgesTest::lowestBits);
         Edge.of(8, "or a missing one (3): those behind it have 0: the sum of all.", PeopleEdgesTest::behindIt);

@@ -160,6 +160,7 @@ public final class PlaysEdgesTest {
             }
             Due.is("worth " + worth, due.names.rests(worth), rests);
         }
+        Due.is("worth 0, behind 20", due.names.rests(0), 1);
     }
 
     private static void restsLeast() {

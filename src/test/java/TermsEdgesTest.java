@@ -5,8 +5,8 @@ public final class TermsEdgesTest {
 
     /** What a text is worth for 0 and the NAME of 1, which 0 does not HOLD. */
     private static void worth(Due due, String text, int worth) {
-        Due.is(text + " makes a rule", due.law("(" + text + "=" + worth + ")-1") > -10000, true);
-        Due.is(text + " is " + worth, due.names.row(2) >> 1 & 1, 1);
+        can(due, "(" + text + "=" + worth + ")-1", 1);
+        can(due, "(" + text + "=" + (worth - 1) + ")-1", 0);
     }
 
     /** Whether 0 CAN SAY the NAME of 1 by a rule. */
@@ -172,6 +172,8 @@ public final class TermsEdgesTest {
         for (int i = 0; i < texts.length; i++) {
             worth(due, texts[i], worth[i]);
         }
+        can(due, "5--3", 1);
+        can(due, "-1", 0);
         can(due, "-".repeat(38) + "1", 1);
         can(due, "-".repeat(39) + "1", 0);
         Due.is("none ahead of a thing is +", due.rule("+5"), -1);
@@ -215,6 +217,11 @@ public final class TermsEdgesTest {
         Due.is("0 HOLDS six", due.names.row(2), 64);
         Due.is("o", due.law("o-1") > -10000, true);
         due.row("each but 0 his own", 6, 7 + 35, 0, 2, 4, 8, 16, 32, 64);
+        Due.is("o is 1 at most", due.law("1-o"), 0);
+        due.names.days(1);
+        due.names.says(1, 0);
+        Due.is("a", due.law("0-a") > -10000, true);
+        Due.is("the NAME of 0 alone was said since", due.names.row(4), 1);
     }
 
     private static void dayBySeven() {
@@ -440,17 +447,21 @@ public final class TermsEdgesTest {
         x.count(4);
     }
 
+    private static void alike(String what, Due due, Due twin) {
+        Due.is(what, due.state().equals(twin.state()), true);
+    }
+
     private static void questions() {
         Due due = busy();
         Due twin = busy();
         asksAll(due);
-        Due.is("all is as it was: " + twin.state(), due.state().equals(twin.state()), true);
+        alike("all is as it was", due, twin);
         for (int i = 0; i < 5; i++) {
             Due.is("undo", due.names.undo(), twin.names.undo());
-            Due.is("undone alike: " + twin.state(), due.state().equals(twin.state()), true);
+            alike("undone alike", due, twin);
         }
         Due.is("kept alike", due.names.again(0) && twin.names.again(0), true);
-        Due.is("again alike: " + twin.state(), due.state().equals(twin.state()), true);
+        alike("again alike", due, twin);
     }
 
     /** Each a call that is refused, by the greatest and the least number of what it refuses. */
@@ -499,6 +510,14 @@ public final class TermsEdgesTest {
         Due.is("THE TEXT behind it", due.names.count(11), 0);
         Due.is("nothing changed", due.state().equals(state), true);
         Due.is("nothing was told", due.told().equals(told), true);
+        Due.is("people who come", due.people("1234"), 1);
+        Due.is("THE TEXT behind them", due.names.count(11), 0);
+        Due.is("a rule", due.rule("9"), 0);
+        Due.is("THE TEXT behind it", due.names.count(11), 0);
+        Due.is("a week", due.week("n1"), 1);
+        Due.is("THE TEXT behind it", due.names.count(11), 0);
+        Due.is("another law", due.law("9"), 0);
+        Due.is("THE TEXT behind it", due.names.count(11), 0);
     }
 
     private static void rule() {
