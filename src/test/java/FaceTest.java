@@ -9,6 +9,7 @@ import java.nio.file.Path;
 import java.util.Arrays;
 import java.util.HashSet;
 import java.util.List;
+import java.util.NoSuchElementException;
 import java.util.Set;
 import java.util.TreeSet;
 import java.util.regex.Matcher;
@@ -61,6 +62,23 @@ public final class FaceTest {
         Due.is("NONE", NamesInMouths.NONE, -1);
     }
 
+    /** The face once more, from the document's own lines: kinds of parameters, and what a call may throw. */
+    private static void faceOfDocument(String doc) throws ReflectiveOperationException {
+        Matcher line = Pattern.compile("(?m)^    public (int|boolean|long) (\\w+)\\(([^)]*)\\)( throws \\w+)?;$").matcher(doc);
+        Set<String> told = new TreeSet<>();
+        while (line.find()) {
+            int parameters = line.group(3).isEmpty() ? 0 : line.group(3).split(",").length;
+            Class<?>[] ints = new Class<?>[parameters];
+            Arrays.fill(ints, int.class);
+            Method m = NamesInMouths.class.getDeclaredMethod(line.group(2), ints);
+            told.add(said(m));
+            Due.is(said(m) + " answers " + line.group(1), m.getReturnType().getSimpleName().equals(line.group(1)), true);
+            boolean throwing = m.getExceptionTypes().length == 1 && m.getExceptionTypes()[0] == NoSuchElementException.class;
+            Due.is(said(m) + " says what it throws", throwing, line.group(4) != null);
+        }
+        Due.is("the document tells this face", told.equals(new TreeSet<>(Arrays.asList(FACE))), true);
+    }
+
     private static void classesInside() {
         Set<String> names = new HashSet<>();
         for (String due : FACE) {
@@ -109,6 +127,16 @@ public final class FaceTest {
             Due.is(imports.group(1) + " is listed", listed, true);
         }
         methodLines(lines);
+        thingsMade(lines);
+    }
+
+    /** All calls of a run share one room: so things are made with the object alone, but for exceptions. */
+    private static void thingsMade(List<String> lines) {
+        Pattern ofField = Pattern.compile(" {4,8}(private final |private |final )[A-Z]?[A-Za-z]+(\\[])? \\w+ = new [^;]+;");
+        for (String line : lines) {
+            boolean makes = line.contains(" new ") && !line.contains("throw new NoSuchElementException();");
+            Due.is("'" + line.trim() + "' makes something in a call", makes && !ofField.matcher(line).matches(), false);
+        }
     }
 
     private static void methodLines(List<String> lines) {
@@ -122,8 +150,9 @@ public final class FaceTest {
         }
     }
 
-    public static void main(String[] args) throws IOException {
+    public static void main(String[] args) throws IOException, ReflectiveOperationException {
         face();
+        faceOfDocument(Files.readString(Path.of(System.getProperty("doc")), StandardCharsets.UTF_8));
         classesInside();
         source(Files.readAllLines(Path.of(System.getProperty("main.source")), StandardCharsets.ISO_8859_1));
         Due.ends();
